@@ -261,8 +261,7 @@ public final class FibreLoops {
         return what == 0 ? best : most;
     }
 
-    // A smaller LOSS can lose a flash that a greater one spares (what a tired amplifier has left
-    // may go to another flash), so each setting is tried, from the greatest down.
+    // From the greatest down, since a trial by a great LOSS ends soon, with its first lost flash.
     public int bearable() {
         for (int loss = HIGHEST_SETTING[LOSS]; loss >= LOWEST_SETTING[LOSS]; loss--) {
             trial.copyFrom(now);
