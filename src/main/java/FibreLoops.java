@@ -452,19 +452,20 @@ public final class FibreLoops {
             }
         }
 
+        // What stands behind the counts is left as it is: begin() clears it before it is used.
         private void copyFrom(State other) {
             copyRow(other.settings, settings);
             tick = other.tick;
             ringCount = other.ringCount;
             deviceCount = other.deviceCount;
             joinCount = other.joinCount;
-            for (int i = 0; i < MOST_LOOPS; i++) {
+            for (int i = 0; i < ringCount; i++) {
                 rings[i].copyFrom(other.rings[i]);
             }
-            for (int i = 0; i < MOST_DEVICES; i++) {
+            for (int i = 0; i < deviceCount; i++) {
                 devices[i].copyFrom(other.devices[i]);
             }
-            for (int i = 0; i < MOST_JOINS; i++) {
+            for (int i = 0; i < joinCount; i++) {
                 joins[i].copyFrom(other.joins[i]);
             }
         }

@@ -21,6 +21,9 @@ public final class TickTest {
         mergeGoesOneWay();
         joinsActInTheirOrder();
         stepsComeInTheirOrder();
+        crossingKeepsAges();
+        aStrengthOfOneIsAFlash();
+        asMuchAsThereCanBe();
         due.end();
     }
 
@@ -416,5 +419,108 @@ public final class TickTest {
         x.set(FibreLoops.LOSS, 50);
         x.ticks(4);
         due.is("lost before an amplifier can help", x.count(6), 1);
+    }
+
+    private static void crossingKeepsAges() {
+        FibreLoops x = withLoops(10, 4, 4);
+        x.join(0, 3, 1, 3);
+        x.turn(0, FibreLoops.CROSS);
+        x.light(0, 0, 1);
+        x.ticks(1);
+        x.light(1, 1, 2);
+        x.ticks(2);
+        due.is("near: value", x.at(0, 3, 0), 2);
+        due.is("near: strength", x.at(0, 3, 1), 580);
+        due.is("near: age", x.at(0, 3, 2), 2);
+        due.is("far: value", x.at(1, 3, 0), 1);
+        due.is("far: strength", x.at(1, 3, 1), 570);
+        due.is("far: age", x.at(1, 3, 2), 3);
+    }
+
+    private static FibreLoops withAFaintOne() {
+        FibreLoops x = withLoops(33, 4, 4);
+        x.set(FibreLoops.FRESH, 100);
+        x.light(0, 0, 7);
+        x.ticks(3);
+        x.set(FibreLoops.LOSS, 0);
+        return x;
+    }
+
+    private static void aStrengthOfOneIsAFlash() {
+        FibreLoops x = withAFaintOne();
+        due.is("value", x.at(0, 3, 0), 7);
+        due.is("strength", x.at(0, 3, 1), 1);
+        due.is("age", x.at(0, 3, 2), 3);
+        due.is("light() there", x.light(0, 3, 8), FibreLoops.NOT_POSSIBLE);
+        due.is("flashes", x.ofLoop(0, 1), 1);
+        due.is("faintest", x.ofLoop(0, 3), 1);
+        due.is("flashes in all", x.count(4), 1);
+        due.is("find()", x.find(7, 2), 1);
+        x.join(0, 0, 1, 0);
+        x.join(1, 0, 0, 0);
+        x.turn(0, FibreLoops.CROSS);
+        x.ticks(1);
+        due.is("goes by CROSS to far", x.at(1, 0, 0), 7);
+        due.is("through", x.ofJoin(0, 5), 1);
+        x.ticks(4);
+        due.is("comes by CROSS to near", x.at(0, 0, 0), 7);
+        due.is("through", x.ofJoin(0, 5), 2);
+        x.turn(0, FibreLoops.MERGE);
+        x.ticks(4);
+        due.is("goes by MERGE", x.at(1, 0, 0), 7);
+        due.is("through", x.ofJoin(0, 5), 3);
+        x.light(0, 0, 9);
+        x.ticks(4);
+        due.is("bars a MERGE", x.at(0, 0, 0), 9);
+        due.is("through", x.ofJoin(0, 5), 3);
+        x = withAFaintOne();
+        x.device(0, 0, FibreLoops.AMPLIFIER, 1, 1);
+        x.device(0, 0, FibreLoops.READER, 0, 0);
+        x.device(0, 0, FibreLoops.FEEDER, 0, 0);
+        x.feed(2, 5);
+        x.set(FibreLoops.READING, 1);
+        x.ticks(1);
+        due.is("stronger by 1", x.ofDevice(0, 6), 1);
+        due.is("read", x.noted(1, 0), 7);
+        due.is("still there", x.at(0, 0, 1), 1);
+        due.is("bars a feeder", x.ofDevice(2, 5), 1);
+        x.set(FibreLoops.RECOVER, 0);
+        x.set(FibreLoops.READING, 3);
+        x.ticks(4);
+        due.is("read again", x.noted(1, 1), 7);
+        due.is("lost by 3", x.at(0, 0, 0), FibreLoops.NONE);
+        due.is("the feeder found a place behind it", x.at(0, 3, 0), 5);
+    }
+
+    private static void asMuchAsThereCanBe() {
+        FibreLoops x = withLoops(1, 32, 32, 32, 32, 32);
+        x.set(FibreLoops.FRESH, 1000);
+        for (int device = 0; device < 12; device++) {
+            x.device(device % 5, 31, FibreLoops.FEEDER, 0, 0);
+            for (int i = 0; i < 12; i++) {
+                due.is("feed(" + device + ", " + i + ")", x.feed(device, i), i + 1);
+            }
+        }
+        for (int join = 0; join < 4; join++) {
+            x.join(join, 31, join + 1, 31);
+            x.turn(join, FibreLoops.CROSS);
+        }
+        due.is("ticks(200)", x.ticks(200), 200);
+        due.is("flashes", x.count(4), 144);
+        due.is("put in", x.count(5), 144);
+        int flashes = 0;
+        for (int loop = 0; loop < 5; loop++) {
+            int left = x.ofLoop(loop, 4) + x.ofLoop(loop, 7) - x.ofLoop(loop, 8);
+            due.is("put in and came, less went, in " + loop, left, x.ofLoop(loop, 1));
+            flashes += left;
+        }
+        due.is("flashes of the loops", flashes, 144);
+        due.is("left", x.leftIn(200), 144);
+        due.is("a full loop", x.ofLoop(4, 0), 32);
+        due.is("first loss", x.firstLoss(), FibreLoops.NONE);
+        due.is("bearable", x.bearable(), 8);
+        due.is("TOO_MANY", x.bestPlace(4, 1, 1, 0), FibreLoops.TOO_MANY);
+        due.is("undo()", x.undo(), 5);
+        due.is("flashes", x.count(4), 0);
     }
 }

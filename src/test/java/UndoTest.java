@@ -11,6 +11,8 @@ public final class UndoTest {
         promise26ErrorsRecordNothing();
         promise26SameStatesAreRecorded();
         promise26UndoneLoopsComeBackEmpty();
+        promise26ErrorsLeaveTheOldestState();
+        promise26UndoneThingsAreMadeAnew();
         promise27Save();
         promise28Restore();
         promise28RestoreIsAChange();
@@ -219,6 +221,75 @@ public final class UndoTest {
         due.is("noted(0, 0)", x.noted(0, 0), FibreLoops.NONE);
         due.is("acts", x.ofDevice(0, 6), 0);
         due.is("place", x.ofDevice(0, 2), 2);
+    }
+
+    private static void promise26ErrorsLeaveTheOldestState() {
+        FibreLoops x = new FibreLoops();
+        for (int changes = 1; changes <= 14; changes++) {
+            x.set(FibreLoops.FRESH, 500 + changes);
+            due.is("an error", x.set(FibreLoops.FRESH, 1), FibreLoops.BAD_VALUE);
+            due.is("another", x.loop(1), FibreLoops.BAD_VALUE);
+        }
+        for (int i = 1; i <= 6; i++) {
+            due.is("undo()", x.undo(), 6 - i);
+            due.is("count(11)", x.count(11), 514 - i);
+            due.is("an error", x.set(FibreLoops.FRESH, 1), FibreLoops.BAD_VALUE);
+        }
+    }
+
+    private static void promise26UndoneThingsAreMadeAnew() {
+        FibreLoops x = new FibreLoops();
+        x.set(FibreLoops.LOSS, 0);
+        x.loop(4);
+        x.loop(4);
+        x.loop(8);
+        x.save(1);
+        x.device(0, 1, FibreLoops.READER, 0, 0);
+        x.join(0, 1, 1, 2);
+        x.turn(0, FibreLoops.CROSS);
+        x.light(0, 0, 1);
+        x.ticks(3);
+        String first = all(x);
+        x.save(0);
+        x.restore(1);
+        x.device(1, 3, FibreLoops.FEEDER, 0, 0);
+        x.join(2, 7, 0, 3);
+        due.is("OFF again", x.ofJoin(0, 4), FibreLoops.OFF);
+        due.is("none went through", x.ofJoin(0, 5), 0);
+        due.is("none waits", x.ofDevice(0, 5), 0);
+        due.is("it did nothing", x.ofDevice(0, 6), 0);
+        due.is("its first value", x.feed(0, 50), 1);
+        due.is("no flash", x.count(4), 0);
+        due.is("forecast of the new ones", x.valueIn(1, 3, 1), 50);
+        String second = all(x);
+        x.save(1);
+        x.restore(0);
+        due.holds("the first ones", first.equals(all(x)));
+        due.is("forecast of the first ones", x.valueIn(1, 1, 1), 1);
+        due.is("forecast by the first join", x.valueIn(0, 1, 2), 1);
+        x.undo();
+        due.holds("the second ones", second.equals(all(x)));
+        x.restore(0);
+        x.restore(1);
+        due.holds("the second ones", second.equals(all(x)));
+        // Loops too: what was in one that was undone is not in its next.
+        x = new FibreLoops();
+        x.save(0);
+        x.loop(32);
+        x.join(0, 0, 1, 0);
+        for (int place = 0; place < 32; place++) {
+            x.light(0, place, place);
+        }
+        x.device(0, 1, FibreLoops.DROPPER, 1, 0);
+        x.ticks(60);
+        x.restore(0);
+        x.loop(20);
+        for (int what = 0; what <= 8; what++) {
+            due.is("ofLoop(0, " + what + ")", x.ofLoop(0, what), what == 0 ? 20 : 0);
+        }
+        due.is("flashes", x.count(4), 0);
+        due.is("forecast", x.leftIn(1), 0);
+        due.is("lost", x.count(6), 0);
     }
 
     private static void promise27Save() {
