@@ -281,7 +281,7 @@ public final class UndoTest {
             x.light(0, place, place);
         }
         x.device(0, 1, FibreLoops.DROPPER, 1, 0);
-        x.ticks(60);
+        x.ticks(5);
         x.restore(0);
         x.loop(20);
         for (int what = 0; what <= 8; what++) {
