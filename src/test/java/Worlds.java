@@ -65,4 +65,27 @@ final class Worlds {
         }
         return x;
     }
+
+    /** Loops with flashes, devices of all kinds and joins that act, another lot of them by each number. */
+    static FibreLoops busy(int number) {
+        FibreLoops x = loops(3 + number % 20, 4 + number % 5, 6 + number % 7, 5);
+        x.set(FibreLoops.READING, 10 * (number % 11));
+        x.set(FibreLoops.RECOVER, 7 * (number % 13));
+        x.set(FibreLoops.FRESH, 200 + 50 * (number % 17));
+        x.device(0, number % 4, FibreLoops.FEEDER, 0, 0);
+        x.device(1, number % 6, FibreLoops.AMPLIFIER, 20 + number % 90, 60 + 10 * (number % 30));
+        x.device(1, number % 3, FibreLoops.READER, 0, 0);
+        x.device(2, number % 5, FibreLoops.CHANGER, 1, 2 + number % 3);
+        x.device(number % 3, 1, FibreLoops.CHANGER, 3, 1);
+        x.device(number % 2, 3, FibreLoops.DROPPER, 4, 0);
+        x.join(0, 2, 1, 4);
+        x.join(1, 5, 2, number % 5);
+        x.turn(0, number % 3);
+        x.turn(1, 1 + number % 2);
+        for (int i = 0; i < 6; i++) {
+            x.light((number + i) % 3, (number * i) % 4, i % 5);
+            x.feed(0, (number + i) % 5);
+        }
+        return x;
+    }
 }
