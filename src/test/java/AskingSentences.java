@@ -50,7 +50,9 @@ final class AskingSentences {
         x.set(FibreLoops.FRESH, 100);
         x.light(0, 0, 7);
         x.ticks(3);
+        s.is("0 of a strength of 1", x.at(0, 3, 0), 7);
         s.is("1 of a strength of 1", x.at(0, 3, 1), 1);
+        s.is("2 of a strength of 1", x.at(0, 3, 2), 3);
         x.ticks(1);
         s.is("0 of a lost one", x.at(0, 0, 0), FibreLoops.NONE);
         s.is("1 of a lost one", x.at(0, 0, 1), 0);
@@ -529,6 +531,11 @@ final class AskingSentences {
         }
         found(full, 5, "nearly all", 0, 3, 97);
         found(full, 6, "all of one loop", 3, 0, 32);
+        FibreLoops same = Worlds.loops(0, 32, 32, 32, 32, 32);
+        for (int i = 0; i < 160; i++) {
+            same.light(i / 32, i % 32, 99);
+        }
+        found(same, 99, "as many as there can be", 0, 0, 160);
         s.says("Returns the number; BAD_VALUE if an argument is out of range; NONE if there is none (also for 2).");
         int[] badWhat = {LEAST, -1, 3, GREATEST};
         for (int what : badWhat) {

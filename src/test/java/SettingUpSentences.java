@@ -120,9 +120,14 @@ final class SettingUpSentences {
 
     private void promise4() {
         s.under("Promise 4: device");
-        s.tell("`int device(int loop, int place, int kind, int one, int two)`: Makes a device.");
+        s.says("`int device(int loop, int place, int kind, int one, int two)`: Makes a device.");
+        madeAnew();
         s.says("This is a change.");
-        s.isAChange("device of each kind", Worlds::small, x -> x.device(0, 0, FibreLoops.READER, 0, 0));
+        for (int kind = 0; kind <= 4; kind++) {
+            int which = kind;
+            int number = kind == FibreLoops.AMPLIFIER ? 1 : 0;
+            s.isAChange("device of kind " + which, Worlds::small, x -> x.device(0, 0, which, number, number));
+        }
         s.isAChange("an amplifier", Worlds::small, x -> x.device(1, 4, FibreLoops.AMPLIFIER, 500, 2000));
         s.says("Returns its number; NO_SUCH if there is no such loop or place; BAD_VALUE if another argument is out of range;"
             + " TOO_MANY if there are 12 devices.");
@@ -146,6 +151,31 @@ final class SettingUpSentences {
         s.is("the thirteenth, nowhere", x.device(0, 4, 1, 0, 0), FibreLoops.NO_SUCH);
         x.undo();
         s.is("the twelfth again", x.device(0, 0, 2, 0, 0), 11);
+    }
+
+    /** What a device of this number did, kept and held that is no more is not of the new one. */
+    private void madeAnew() {
+        int[][] devices = {{0, 10, 20}, {1, 0, 0}, {2, 0, 0}, {3, 5, 5}, {4, 5, 0}};
+        for (int[] before : devices) {
+            for (int[] d : devices) {
+                FibreLoops x = Worlds.loops(1, 4);
+                x.save(0);
+                x.device(0, 1, before[0], before[1], before[2]);
+                for (int i = 0; i < 3; i++) {
+                    x.feed(0, 5);
+                    x.light(0, 0, 5);
+                    x.ticks(4);
+                }
+                x.restore(0);
+                String call = "kind " + d[0] + " in place of kind " + before[0] + ": ofDevice(0, ";
+                s.is(call + ")", x.device(0, 3, d[0], d[1], d[2]), 0);
+                int[] due = {d[0], 0, 3, d[1], d[2], d[0] == FibreLoops.AMPLIFIER ? d[2] : 0, 0};
+                for (int what = 0; what <= 6; what++) {
+                    s.is(call + what + ")", x.ofDevice(0, what), due[what]);
+                }
+                s.is(call + ") notes", x.noted(0, 0), d[0] == FibreLoops.READER ? FibreLoops.NONE : FibreLoops.NO_SUCH);
+            }
+        }
     }
 
     private void promise4Arguments() {
@@ -350,6 +380,13 @@ final class SettingUpSentences {
             s.is("a wrong one there", x.light(0, 32 - i, 100), FibreLoops.BAD_VALUE);
         }
         s.is("of the other loop", x.light(1, 3, 5), 2);
+        FibreLoops faint = Worlds.loops(33, 4);
+        faint.set(FibreLoops.FRESH, 100);
+        faint.light(0, 0, 1);
+        faint.ticks(3);
+        s.is("where a flash of a strength of 1 is", faint.light(0, 3, 2), FibreLoops.NOT_POSSIBLE);
+        faint.ticks(1);
+        s.is("where it was lost", faint.light(0, 0, 2), 1);
         s.is("not changed", x.at(0, 0, 0), 5);
     }
 

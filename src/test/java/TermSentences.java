@@ -550,6 +550,36 @@ final class TermSentences {
         joined("a flash at the near end", FibreLoops.MERGE, 1, -1, FibreLoops.NONE, 1, 1);
         joined("a flash at the far end", FibreLoops.MERGE, -1, 2, FibreLoops.NONE, 2, 0);
         joined("none at both", FibreLoops.MERGE, -1, -1, FibreLoops.NONE, FibreLoops.NONE, 0);
+        faintFlashesThroughJoins();
+    }
+
+    /** A flash keeps what it is when it goes through a join, a faint one as well as any. */
+    private void faintFlashesThroughJoins() {
+        for (int mode = FibreLoops.CROSS; mode <= FibreLoops.MERGE; mode++) {
+            FibreLoops x = Worlds.loops(33, 4, 4);
+            x.join(0, 3, 1, 3);
+            x.turn(0, mode);
+            x.set(FibreLoops.FRESH, 100);
+            x.light(0, 0, 5);
+            x.ticks(3);
+            s.is("a strength of 1, mode " + mode + ": far", x.at(1, 3, 1), 1);
+            s.is("a strength of 1, mode " + mode + ": near", x.at(0, 3, 1), 0);
+            s.is("a strength of 1, mode " + mode + ": through", x.ofJoin(0, 5), 1);
+            x = Worlds.loops(33, 4, 4);
+            x.join(1, 3, 0, 3);
+            x.turn(0, mode);
+            x.set(FibreLoops.FRESH, 100);
+            x.light(0, 0, 5);
+            x.ticks(2);
+            x.light(1, 2, 6);
+            x.ticks(1);
+            boolean crossed = mode == FibreLoops.CROSS;
+            s.is("a strength of 1 at the far end, mode " + mode + ": far", x.at(0, 3, 0), crossed ? 6 : 5);
+            s.is("a strength of 1 at the far end, mode " + mode + ": its age", x.at(0, 3, 2), crossed ? 1 : 3);
+            s.is("a strength of 1 at the far end, mode " + mode + ": near", x.at(1, 3, 0), crossed ? 5 : 6);
+            s.is("a strength of 1 at the far end, mode " + mode + ": near, its age", x.at(1, 3, 2), crossed ? 3 : 1);
+            s.is("a strength of 1 at the far end, mode " + mode + ": through", x.ofJoin(0, 5), crossed ? 2 : 0);
+        }
     }
 
     private void joined(String what, int mode, int near, int far, int nearThen, int farThen, int through) {

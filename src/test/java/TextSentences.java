@@ -515,9 +515,14 @@ final class TextSentences {
         s.is("the pad is empty", x.count(12), 0);
     }
 
+    /** With a text, and with room for one more state in the history. */
     private FibreLoops with(String text) {
         FibreLoops x = forOrders();
+        x.ticks(1);
+        x.ticks(1);
         x.undo();
+        x.undo();
+        x.light(1, 9, 3);
         Texts.put(x, text);
         return x;
     }

@@ -190,6 +190,16 @@ final class UndoSentences {
             s.is("after errors: undo()", y.undo(), i);
             s.is("after errors: the tick", y.count(0), i);
         }
+        for (int i = 0; i < 20; i++) {
+            y.ticks(1);
+            y.ticks(0);
+            y.turn(0, 0);
+        }
+        for (int i = 5; i >= 0; i--) {
+            s.is("after errors of a full history: undo()", y.undo(), i);
+            s.is("after errors of a full history: the tick", y.count(0), 14 + i);
+            y.ticks(0);
+        }
     }
 
     private void promise26Orders() {

@@ -15,7 +15,8 @@ final class Worlds {
 
     /**
      * Two loops with one device of each kind (in the order of their kinds) and a join, flashes, values that wait, a
-     * text with a fault, a saved state in slot 0 alone, and four changes that can be undone.
+     * text with a fault, a saved state in slot 0 alone, and five changes that can be undone, the latest of which was
+     * not followed by an undo().
      */
     static FibreLoops small() {
         FibreLoops x = new FibreLoops();
@@ -35,11 +36,11 @@ final class Worlds {
         x.feed(2, 1);
         x.feed(2, 2);
         x.ticks(3);
-        x.feed(2, 7);
         x.set(FibreLoops.LOSS, 9);
         x.set(FibreLoops.LOSS, 8);
         x.undo();
         x.undo();
+        x.feed(2, 7);
         x.put('t');
         return x;
     }
