@@ -254,6 +254,7 @@ final class ForecastSentences {
         s.is("in all loops: flashes", x.bestPlace(1, 500, 2000, 1), 2);
         s.is("in all loops, by a place of another: flashes", x.bestPlace(0, 500, 2000, 1), 2);
         lastPlaceIsBest();
+        eachPlaceDoesHarm();
         s.isNoChange("bestPlace(1, 500, 2000, 0)", Worlds::small, y -> y.bestPlace(1, 500, 2000, 0));
         s.isNoChange("bestPlace(0, 1, 1, 1)", Worlds::small, y -> y.bestPlace(0, 1, 1, 1));
     }
@@ -277,6 +278,24 @@ final class ForecastSentences {
         x.light(0, 30, 5);
         best(x, "not saved by too small a gain", 1, 2, 0, 0);
         best(x, "not saved by too small a store", 2, 1, 0, 0);
+    }
+
+    /** With no more amplifier there would be more flashes than with one at any place; yet a place is answered. */
+    private void eachPlaceDoesHarm() {
+        FibreLoops x = Worlds.loops(5, 4, 12);
+        x.set(FibreLoops.RECOVER, 0);
+        x.set(FibreLoops.FRESH, 100);
+        x.device(1, 1, FibreLoops.AMPLIFIER, 200, 400);
+        x.light(0, 2, 5);
+        x.ticks(15);
+        // It has 25 now. With 1 more it comes over the join to the amplifier there, and takes what another one needs.
+        x.join(0, 1, 1, 0);
+        x.turn(0, FibreLoops.MERGE);
+        x.set(FibreLoops.FRESH, 350);
+        x.light(1, 7, 6);
+        x.light(1, 6, 7);
+        s.is("without one more: flashes", x.leftIn(100), 2);
+        best(x, "with one more that does harm", 1, 1, 0, 1);
     }
 
     private void best(FibreLoops x, String what, int gain, int store, int place, int flashes) {
